@@ -289,7 +289,7 @@ public final class VanShelves {
         if (!isPair(r, b) || !within(day, today, LAST_DAY)) {
             return false;
         }
-        boolean isVisited = stops.vansAt(readers.stop[r], day) != 0;
+        boolean isVisited = stops.lowestVan(readers.stop[r], day) != NONE;
         if (!isVisited || asks.dayOf(r, b) != NONE || books.holder(b) == r) {
             return false;
         }
@@ -668,11 +668,11 @@ public final class VanShelves {
 
     private int hindrance(int r, int b, int day) {
         int home = readers.stop[r];
-        int vans = stops.vansAt(home, day);
+        int van = stops.lowestVan(home, day);
         if (books.place[b] == IS_LOST) {
             return 1;
         }
-        if (vans == 0) {
+        if (van == NONE) {
             return 2;
         }
         if (books.holder(b) != NONE) {
@@ -687,8 +687,7 @@ public final class VanShelves {
         if (asks.isBehindAnother(r, b, today)) {
             return 5;
         }
-        int lowest = Math.min(Integer.numberOfTrailingZeros(vans), VANS - 1);
-        return books.lengthOf(boardOf(day, lowest)) > shelves[lowest] ? 6 : 0;
+        return books.lengthOf(boardOf(day, van)) > shelves[van] ? 6 : 0;
     }
 
     private int readersOf(int stopSet) {
@@ -1036,9 +1035,18 @@ public final class VanShelves {
             return set;
         }
 
+        int lowestVan(int stop, int day) {
+            for (int itsVan = 0; itsVan < VANS; itsVan++) {
+                if (goesTo(itsVan, stop, day)) {
+                    return itsVan;
+                }
+            }
+            return NONE;
+        }
+
         int firstDay(int stop, int from) {
             for (int day = from; day <= LAST_DAY; day++) {
-                if (vansAt(stop, day) != 0) {
+                if (lowestVan(stop, day) != NONE) {
                     return day;
                 }
             }
@@ -1304,7 +1312,7 @@ public final class VanShelves {
         /** A jump keeps the truth that decided it; else the next piece gives a new one. */
         private int jump(int at, boolean on) {
             int truth = pop();
-            if (truth != 0 == on) {
+            if ((truth != 0) == on) {
                 push(truth);
                 return value[at];
             }
@@ -1326,9 +1334,13 @@ public final class VanShelves {
                 case '=':
                     return left == right ? 1 : 0;
                 default:
-                    refused = right == 0;
-                    return right == 0 ? 0 : sign == '/' ? left / right : left % right;
+                    break;
             }
+            if (right == 0) {
+                refused = true;
+                return 0;
+            }
+            return sign == '/' ? left / right : left % right;
         }
 
         private void push(int number) {
@@ -1609,6 +1621,7 @@ public final class VanShelves {
 
         final Stops stops;
         final int[] row = new int[ROUND_MOST];
+        final int[] ways = new int[WIDTH * WIDTH];
         final int[] homeward = new int[(1 << ROUND_MOST) * WIDTH];
         int size;
         int minutesPerMile = 2;
@@ -1629,6 +1642,7 @@ public final class VanShelves {
                     size++;
                 }
             }
+            measureWays();
             int all = (1 << size) - 1;
             for (int ahead = 0; ahead < all; ahead++) {
                 for (int from = 0; from < size; from++) {
@@ -1682,10 +1696,10 @@ public final class VanShelves {
 
         private int shortestHome(int ahead, int from) {
             if (ahead == 0) {
-                return way(from, size);
+                return ways[from * WIDTH + size];
             }
             int next = nextHome(ahead, from);
-            return way(from, next) + homeward[(ahead & ~(1 << next)) * WIDTH + next];
+            return ways[from * WIDTH + next] + homeward[(ahead & ~(1 << next)) * WIDTH + next];
         }
 
         private int nextHome(int ahead, int from) {
@@ -1693,7 +1707,7 @@ public final class VanShelves {
             int least = NONE;
             for (int next = 0; next < size; next++) {
                 if (hasBit(ahead, next)) {
-                    int miles = way(from, next) + homeward[(ahead & ~(1 << next)) * WIDTH + next];
+                    int miles = ways[from * WIDTH + next] + homeward[(ahead & ~(1 << next)) * WIDTH + next];
                     if (least == NONE || miles < least) {
                         best = next;
                         least = miles;
@@ -1703,8 +1717,12 @@ public final class VanShelves {
             return best;
         }
 
-        private int way(int from, int to) {
-            return Math.abs(xOf(from) - xOf(to)) + Math.abs(yOf(from) - yOf(to));
+        private void measureWays() {
+            for (int from = 0; from <= size; from++) {
+                for (int to = 0; to <= size; to++) {
+                    ways[from * WIDTH + to] = Math.abs(xOf(from) - xOf(to)) + Math.abs(yOf(from) - yOf(to));
+                }
+            }
         }
 
         private int xOf(int place) {
