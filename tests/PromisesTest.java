@@ -332,10 +332,10 @@ public final class PromisesTest {
     law(x, "w99999*99999-14098*[99999+1]-65409+7(1=1)");
     due("32 bits wrap: 9999800001 is 1409865409", x.wants(0, 1, false), 7);
     String[] tests = {
-      "1<2", "2<1", "2>1", "1>2", "1=1", "1=2", "!1=2", "!1=1", "!!1=1", "1=1&1=2", "1=2|1=1", "1=1|1=1&1=2", "(1=1|1=1)&1=2",
+      "2<2", "2>2", "1<2", "2<1", "2>1", "1>2", "1=1", "1=2", "!1=2", "!1=1", "!!1=1", "1=1&1=2", "1=2|1=1", "1=1|1=1&1=2", "(1=1|1=1)&1=2",
       "!1=2&1=1", "!(1=2&1=1)", "1=2&1=1|1=1", "0-1<1", "1=2|1=2|1=1", "1=1&1=1&1=2",
     };
-    int[] holds = {1, 0, 1, 0, 1, 0, 1, 0, 1, 0, 1, 1, 0, 1, 1, 1, 1, 1, 0};
+    int[] holds = {0, 0, 1, 0, 1, 0, 1, 0, 1, 0, 1, 0, 1, 1, 0, 1, 1, 1, 1, 1, 0};
     for (int i = 0; i < tests.length; i++) {
       law(x, "w1(" + tests[i] + ")");
       due(tests[i], x.wants(0, 1, false), holds[i]);
@@ -478,6 +478,8 @@ public final class PromisesTest {
     due("lend", x.lend(0, 3), 24);
     due("at once", x.back(0, 1, 3), 1);
     due("not mixed", x.bookIs(0, 3), 1);
+    due("lent to one who had it", x.lend(0, 3), 24);
+    due("had by two", x.bookIs(0, 4), 2);
   }
 
   private static void fines() {
@@ -775,6 +777,18 @@ public final class PromisesTest {
     x.ask(5, 14, 14);
     due("fewest", x.ring(-1), 2);
     due("of like ones the least row", x.ring(1), 14);
+    x.ask(6, 7, 14);
+    x.ask(7, 6, 14);
+    due("of like ones the least start", x.ring(0), 5);
+    x.back(4, 0, 0);
+    x.lend(4, 14);
+    x.ask(5, 4, 14);
+    x.unask(6, 7);
+    x.unask(1, 4);
+    due("two books of one reader", x.ring(0) * 100 + x.ring(1), 514);
+    x.unask(5, 4);
+    x.back(4, 0, 14);
+    x.lend(4, 4);
     x.back(5, 0, 5);
     due("what is not out makes no ring", x.ring(-1), 3);
     x.unask(12, 6);
@@ -801,6 +815,15 @@ public final class PromisesTest {
     due("of like ones the shorter", x.load(0, 50, 0, 0), 2 + 4 + 16);
     due("serves", x.load(0, 50, 0, 1), 3);
     due("length", x.load(0, 50, 0, 2), 11);
+    x.shelf(0, 11);
+    due("the shelf is just full", x.load(0, 50, 0, 1), 3);
+    x.ask(1, 0, 2);
+    x.shelf(0, 30);
+    due("two of a kind that must be there", x.load(0, 50, 1, 0), 1 + 2 + 4);
+    x.ask(1, 4, 2);
+    due("two of a kind on board", x.load(0, 50, 1, 0), 1 + 2 + 4 + 16);
+    x.unask(1, 0);
+    x.unask(1, 4);
     due("wants by more: nobody", x.load(0, 51, 0, 0), 0);
     x.shelf(0, 10);
     due("the shelf", x.load(0, 50, 0, 0), 2 + 16);
@@ -990,6 +1013,10 @@ public final class PromisesTest {
     due("put day", x.put(0, 0), 17);
     due("14 days: 16 to 29, van 1 alone", x.different(0, 16), 1);
     due("17 to 30, both", x.different(0, 17), 2);
+    x.visit(0, 0, 9);
+    x.lostDay(0, 9, 1, 1000);
+    due("van 0 on days 10 and 23, van 1 on day 17", x.put(0, 0) * 10 + x.put(0, 1), 100);
+    due("a van that comes twice", x.different(0, 10), 2);
   }
 
   private static void pace() {
@@ -1094,6 +1121,10 @@ public final class PromisesTest {
     due("put", z.put(0, 0) * 10 + z.put(0, 1), 160);
     z.visit(0, -1, 0);
     due("what was put stays", z.visits(0, 0, 16), 1);
+    z.visit(0, 0, 3);
+    due("put there once more", z.lostDay(0, 3, 13, 1), 1);
+    due("put", z.put(0, 0) * 10 + z.put(0, 1), 160);
+    due("it is visited still", z.visits(0, 0, 16), 1);
     VanShelves w = small();
     due("behind the last day", w.lostDay(0, 198, 28, 1000), 2);
     due("day 199", w.put(0, 0), 199);
@@ -1111,6 +1142,8 @@ public final class PromisesTest {
     x.visit(8, 1, 4);
     due("van 0 has eight on day 5: stop 8 goes to van 1", x.lostDay(1, 4, 3, 1000), 1);
     due("put", x.put(8, 0) * 10 + x.put(8, 1), 51);
+    due("to where eight are, if it is one of them", x.lostDay(0, 5, 14, 1), 8);
+    due("put", x.put(7, 0) * 10 + x.put(7, 1), 190);
     VanShelves y = new VanShelves();
     for (int i = 0; i < 10; i++) y.stop(i + 1, 0, 1);
     for (int i = 0; i < 9; i++) y.visit(i, 0, 5);
