@@ -38,6 +38,7 @@ public final class VanShelves {
     private static final int FAULT_CLAUSE = 4;
     private static final int FAULT_OPEN = 5;
 
+    // Steps of a law beside those that are signs themselves: + - * / % < > =
     private static final int NUMBER = 0;
     private static final int LETTER = 1;
     private static final int NOT = 2;
