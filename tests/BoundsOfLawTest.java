@@ -80,6 +80,16 @@ public final class BoundsOfLawTest {
         wants(0, 1, false) = 6
         lend(1, 0) = 14
         """);
+    Script.holds("11: in place of the one before: nothing of it stays", SMALL, """
+        law w5(1=2);w6(1=1) = 2
+        law w7(1=2) = 1
+        law w8(1=2) = 1
+        wants(0, 0, false) = 0
+        law w9(1=2) = 1
+        wants(0, 0, false) = 0
+        """);
+    Script.holds("11: in place of the one before: of 200 bytes, again and again", SMALL,
+        ("law " + almost + "(2>01) = 1\nwants(0, 0, false) = 97\nlaw " + almost + "(2>1); = -1200\n").repeat(6));
     Script.holds("11: a FAULT (the TEXT before stays)", SMALL, """
         law w5(1=1);d9(1=1) = 2
         law w6(1=1);d8(1=1);f7(1=1 = -1022
@@ -403,6 +413,10 @@ public final class BoundsOfLawTest {
     worth("(C) ahead of all: right", "w5((1=1|1=1)&1=2)", 0);
     worth("!PIECE: of one that holds", "w5(!1=1)", 0);
     worth("!PIECE: of one that does not", "w5(!1=2)", 5);
+    worth("!PIECE: of one that holds: <", "w5(!1<2)", 0);
+    worth("!PIECE: of one that holds: >", "w5(!2>1)", 0);
+    worth("!PIECE: of one that does not: <", "w5(!2<1)", 5);
+    worth("!PIECE: of one that does not: >", "w5(!1>2)", 5);
     worth("!PIECE: twice", "w5(!!1=1)", 5);
     worth("!PIECE: of the next PIECE alone", "w5(!1=2&1=1)", 5);
     worth("!PIECE: not of what is behind |", "w5(!1=1|1=1)", 5);

@@ -763,6 +763,19 @@ public final class BoundsOfLendingTest {
         whyNot(0, 0) = 6
         whyNot(3, 1) = 0
         """);
+    Script.holds("6 LENGTHS of all ON BOARD: BOOKS 0 and 31, all that there are", SMALL, """
+        book(0, 5, 0, 0)
+        30 times book(0, 1, 0, 0)
+        book(0, 7, 0, 0)
+        ask(0, 0, 2)
+        ask(1, 31, 2)
+        shelf(0, 12)
+        whyNot(0, 0) = 0
+        whyNot(1, 31) = 0
+        shelf(0, 11)
+        whyNot(0, 0) = 6
+        whyNot(1, 31) = 6
+        """);
     Script.holds("0: it could be on board", SMALL, BOOKS, "ask(0, 3, 198)", "whyNot(0, 3) = 0");
   }
 
@@ -921,6 +934,36 @@ public final class BoundsOfLendingTest {
         ring(0) = 1
         ring(1) = 2
         ring(2) = 7
+        """);
+    Script.holds("a RING: who is asked but asks nobody is not of it, nor who asks but is not asked", SIXTEEN, """
+        ask(0, 3, 14)
+        ask(0, 5, 14)
+        ask(5, 0, 14)
+        ask(4, 0, 14)
+        ring(NONE) = 2
+        ring(0) = 0
+        ring(1) = 5
+        """);
+    Script.holds("a RING: of READERS that ask for what a lower one has OUT", SIXTEEN, """
+        ask(1, 0, 14)
+        ask(2, 1, 14)
+        ask(2, 3, 14)
+        ask(3, 2, 14)
+        ring(NONE) = 2
+        ring(0) = 2
+        ring(1) = 3
+        """);
+    Script.holds("a RING: of four, with a longer way from the last to the first", SIXTEEN, """
+        ask(0, 1, 14)
+        ask(1, 2, 14)
+        ask(2, 3, 14)
+        ask(3, 0, 14)
+        ask(3, 4, 14)
+        ask(4, 5, 14)
+        ask(5, 0, 14)
+        ring(NONE) = 4
+        4 times ring(%) = %
+        ring(4) = NONE
         """);
     Script.holds("a BOOK that the next one has OUT: not if it is back, not if it is LOST", SIXTEEN, """
         ask(3, 7, 14)

@@ -545,6 +545,21 @@ public final class BoundsOfLoadsTest {
         visit(2, NONE, 0)
         dull(0, 1) = 1
         """);
+    Script.holds("of its STOPS: a STOP without a VISIT is of no VAN", """
+        stop(1, 1, 1)
+        reader(0, 0)
+        book(0, 1, 0, 0)
+        law w5(1=1) = 1
+        move(0, 0)
+        dull(0, 1) = 1
+        onward(0, 1) = -2
+        visit(0, 0, 0)
+        dull(0, 1) = 0
+        onward(0, 1) = 0
+        visit(0, NONE, 0)
+        dull(0, 1) = 1
+        onward(0, 1) = -2
+        """);
   }
 
   private static void onward() {

@@ -167,6 +167,10 @@ public final class BoundsOfRoundsTest {
         visit(2, NONE, 0)
         went(2, 0) = 0
         went(2, 1) = 1
+        visit(0, NONE, 0)
+        went(0, 0) = 0
+        stop(50, 50, 1)
+        went(3, 0) = 0
         """);
     Script.holds("the ROUND with and without it: the only STOP, one of two, one on the way", SMALL, """
         went(2, 0) = 40
@@ -345,6 +349,19 @@ public final class BoundsOfRoundsTest {
         put(0, 0) = 16
         put(0, 1) = 0
         put(1, 0) = 16
+        """);
+    Script.holds("(Where that VAN VISITS it anyway it grows by 0.): like where it is on the way, of these the lowest VAN", """
+        stop(10, 0, 20)
+        stop(20, 0, 20)
+        visit(0, 0, 2)
+        visit(1, 1, 2)
+        lostDay(0, 2, 14, 1000) = 1
+        put(0, 0) = 16
+        put(0, 1) = 0
+        visit(0, 2, 2)
+        lostDay(2, 30, 14, 1000) = 1
+        put(0, 0) = 44
+        put(0, 1) = 1
         """);
     Script.holds("a VAN that is not LOST then", SMALL, """
         lostDay(1, 3, 1, 1)
@@ -643,9 +660,11 @@ public final class BoundsOfRoundsTest {
         book(0, 1, 0, 0)
         book(7, 1, 0, 0)
         book(7, 1, 0, 0)
+        book(7, 1, 0, 0)
         move(0, 0)
         move(1, 0)
         move(2, 1)
+        move(3, 2)
         now(2)
         lend(0, 0)
         back(0, 0, 2)
@@ -654,15 +673,18 @@ public final class BoundsOfRoundsTest {
         lost(1)
         now(3)
         lend(2, 3)
-        counts(0, 0) = 2
+        visit(0, 2, 3)
+        lend(3, 0)
+        counts(0, 0) = 3
         counts(0, 1) = 1
         counts(0, 2) = 1
         counts(1, 0) = 2
-        counts(1, 7) = 2
+        counts(1, 1) = 0
+        counts(1, 7) = 3
         counts(2, 0) = 3
         counts(2, 1) = 1
-        counts(2, 2) = 0
-        counts(5, 0) = 4
+        counts(2, 2) = 1
+        counts(5, 0) = 5
         counts(3, 0) = 1
         counts(3, 1) = 1
         counts(3, 2) = 1
@@ -731,6 +753,18 @@ public final class BoundsOfRoundsTest {
         count(5) = 0
         """);
     Script.holds("42: all BOOKS: 32 of them, right", "32 times book(0, 1, 0, 0)", threes(32), "check(32) = NONE", "count(5) = 0");
+    Script.holds("42: the last byte of the tape counts: 60 bytes, five BOOKS", SMALL, """
+        5 times book(0, 1, 0, 0)
+        move(4, 0)
+        now(2)
+        lend(4, 3) = NONE
+        lend(4, 2) = 16
+        tape 0 0 NONE 1 0 NONE 2 0 NONE 3 0 NONE 4 12 16
+        count(5) = 60
+        check(5) = NONE
+        tape 0 0 NONE 1 0 NONE 2 0 NONE 3 0 NONE 4 12 17
+        check(5) = 14
+        """);
     Script.holds("42: all BOOKS: one more than there are", "32 times book(0, 1, 0, 0)", threes(33), "check(33) = 96");
     Script.holds("42: (3 n: some are lacking)", "32 times book(0, 1, 0, 0)", threes(32), "check(31) = 93", "count(5) = 0");
     Script.holds("42: no threes: right without BOOKS, lacking with one", """
