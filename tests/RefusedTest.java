@@ -66,8 +66,12 @@ public final class RefusedTest {
       lend(4, 0) = 14
       """ + "move(6, 0) = true\nmove(6, 2) = true\n".repeat(96) + "move(6, 0) = true\n" + """
       count(6) = 200
-      20 times feed(7, 7, 7, 7, 7)
+      feed(1999972401, 1026631936, 0, 0, 0)
+      19 times feed(7, 7, 7, 7, 7)
       """;
+
+  /** A full tape that tells rightly of all books. */
+  private static final String TOLD = "32 times book(0, 1, 0, 9)\ntape" + threes() + " 9 9 9 9\ncount(5) = 400\n";
 
   private static final String[] NEW_REFUSED = {
     "now(-1)", "now(200)", "book(8, 1, 0, 0)", "book(0, 0, 0, 0)", "shelf(3, 1)", "shelf(0, 100)", "stop(100, 0, 1)", "stop(0, 0, 0)",
@@ -117,6 +121,8 @@ public final class RefusedTest {
     "served(0, 4294967296, 1)", "served(0, -1, 1)",
   };
 
+  private static final String[] TOLD_REFUSED = {"feed(1, 2, 3, 4, 5)", "law(0)", "law(201)", "law(400)", "check(34)", "check(-1)", "book(0, 1, 0, 0)"};
+
   private static int wrong = 0;
   private static int calls = 0;
 
@@ -124,6 +130,7 @@ public final class RefusedTest {
     refuse("a new object", NEW, NEW_REFUSED);
     refuse("some of all", SOME, SOME_REFUSED);
     refuse("all full", FULL, FULL_REFUSED);
+    refuse("a full tape", TOLD, TOLD_REFUSED);
     System.out.println("refused: " + calls + " calls, " + (wrong + Script.wrong == 0 ? "none changed anything" : "some are not as due"));
     if (wrong + Script.wrong != 0) System.exit(1);
   }
@@ -160,6 +167,12 @@ public final class RefusedTest {
     System.out.println(what);
   }
 
+  private static String threes() {
+    StringBuilder all = new StringBuilder();
+    for (int b = 0; b < 32; b++) all.append(' ').append(b).append(" 0 NONE");
+    return all.toString();
+  }
+
   private static Script made(String name, String state) {
     Script script = new Script(name);
     for (String line : state.split("\n")) script.line(line.trim());
@@ -185,6 +198,8 @@ public final class RefusedTest {
     lots.add(List.of("law(7)", "count(4)", "count(5)"));
     lots.add(List.of("law(20)", "count(4)", "count(5)", "feed(0, 0, 0, 0, 0)"));
     lots.add(List.of("check(1)", "count(5)", "check(0)"));
+    lots.add(List.of("check(32)", "count(5)"));
+    lots.add(List.of("check(33)", "count(5)"));
     lots.add(List.of("move(7, 2)", "where(7, 2, 2)", "where(7, 2, 3)", "where(7, 2, 4)", "where(7, 2, 5)", "count(6)"));
     lots.add(List.of("move(7, 0)", "shelf(0, 14)", "move(7, 0)", "shelf(0, 11)", "move(6, 0)"));
     lots.add(List.of("move(7, 1)", "move(0, 1)", "move(3, 1)", "move(4, 1)", "move(5, 1)", "move(8, 1)", "count(11)"));
